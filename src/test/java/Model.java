@@ -668,21 +668,40 @@ final class Model {
         return allowed(buffer.substring(0, firstError()));
     }
 
-    int bufferLength() {
-        return buffer.length();
-    }
-
-    int pathsFrom(int path) {
-        return path >= 0 && path < paths().size() ? start(paths().get(path)) : 0;
-    }
-
     List<Integer> parallelTo(int path) {
         List<Integer> found = new ArrayList<>();
-        for (int i = 0; path >= 0 && path < paths().size() && i < paths().size(); i++) {
-            if (parallel(paths().get(path), paths().get(i))) {
+        for (int i = 0; i < paths().size(); i++) {
+            if (parallel(pathAt(path), pathAt(i))) {
                 found.add(i);
             }
         }
         return found;
+    }
+
+    List<Integer> equalTo(int path) {
+        List<Integer> found = new ArrayList<>();
+        for (String member : classOf(pathAt(path))) {
+            found.add(number(member));
+        }
+        return found;
+    }
+
+    /** The arrows from an object to another one, or to any (-1). */
+    List<Integer> arrowsBetween(int from, int to) {
+        List<Integer> found = new ArrayList<>();
+        for (int a = 0; a < arrows.size(); a++) {
+            if (arrows.get(a)[0] == from && (to < 0 || arrows.get(a)[1] == to)) {
+                found.add(a);
+            }
+        }
+        return found;
+    }
+
+    int arrowEnd(int arrow, int which) {
+        return arrow >= 0 && arrow < arrows.size() ? arrows.get(arrow)[which] : 0;
+    }
+
+    int sizeAt(int object) {
+        return sizes[object];
     }
 }

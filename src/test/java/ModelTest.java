@@ -9,10 +9,15 @@ public final class ModelTest {
         "setFunction", "apply", "imageShare", "separate", "isProduct", "isPullback", "isEqualizer", "digest"
     };
     private static final int[] WEIGHTS = {
-        1, 40, 3, 30, 4, 60, 3, 10, 12,
-        6, 20, 10, 10, 30, 40, 20, 10, 5, 6,
-        30, 15, 10, 8, 8, 12, 10, 5
+        1, 30, 5, 15, 6, 30, 3, 10, 6,
+        6, 20, 10, 10, 25, 40, 20, 10, 5, 5,
+        40, 15, 10, 10, 12, 15, 12, 5
     };
+
+    private static final int APPEND = 5;
+    private static final int CLEAR = 6;
+    private static final int FIRST_ERROR = 7;
+    private static final int LOAD = 8;
 
     private final Checks checks;
     private final Random random;
@@ -21,6 +26,7 @@ public final class ModelTest {
     private final Model model = new Model();
     private final int[] throwing = new int[NAMES.length];
     private final int[] answering = new int[NAMES.length];
+    private final int[] positive = new int[NAMES.length];
 
     private ModelTest(Checks checks, int seed, boolean large) {
         this.checks = checks;
@@ -32,23 +38,26 @@ public final class ModelTest {
         Checks checks = new Checks();
         int[] answers = new int[NAMES.length];
         int[] exceptions = new int[NAMES.length];
-        for (int seed = 0; seed < 160; seed++) {
+        int[] positive = new int[NAMES.length];
+        for (int seed = 0; seed < 240; seed++) {
             ModelTest test = new ModelTest(checks, seed, seed % 8 == 7);
             test.run("seed " + seed);
             for (int i = 0; i < NAMES.length; i++) {
                 answers[i] += test.answering[i];
                 exceptions[i] += test.throwing[i];
+                positive[i] += test.positive[i];
             }
         }
         for (int i = 0; i < NAMES.length; i++) {
-            System.out.println(NAMES[i] + ": " + answers[i] + " answers, " + exceptions[i] + " exceptions");
-            checks.due(NAMES[i] + " has been tried", answers[i] > 0, true);
+            System.out.println(NAMES[i] + ": " + answers[i] + " answers, " + positive[i]
+                    + " of them true or above 0, " + exceptions[i] + " exceptions");
+            checks.due(NAMES[i] + " has been tried", positive[i] > 0, true);
         }
         checks.finish();
     }
 
     private void run(String name) {
-        int first = large ? 5 + random.nextInt(4) : 2 + random.nextInt(5);
+        int first = large ? 5 + random.nextInt(4) : 2 + random.nextInt(2) + random.nextInt(4);
         compare(name + " first", 0, first, 0, 0, 0);
         for (int i = 0; i < 500; i++) {
             int op = operation();
@@ -56,6 +65,9 @@ public final class ModelTest {
             bend(op, a);
             String call = name + " call " + i + " " + NAMES[op] + "(" + a[0] + ", " + a[1] + ", " + a[2] + ", " + a[3] + ")";
             compare(call, op, a[0], a[1], a[2], a[3]);
+            if (random.nextInt(large ? 80 : 25) == 0) {
+                writeAndLoad(call + " then");
+            }
             if (!large || i % 8 == 0) {
                 checks.due(call + " digest", real.digest(), model.digest());
             }
@@ -103,20 +115,23 @@ public final class ModelTest {
                 a[1] = large && random.nextInt(3) > 0 ? a[0] + 1 : random.nextInt(model.count(0));
                 break;
             case "addCell":
+            case "separate":
+                a[0] = somePath(paths);
+                a[1] = one(model.parallelTo(a[0]), a[0]);
+                break;
             case "distance":
             case "proof":
-            case "separate":
-                a[0] = paths - 1 - random.nextInt(random.nextInt(paths) + 1);
-                List<Integer> parallel = model.parallelTo(a[0]);
-                a[1] = parallel.get(random.nextInt(parallel.size()));
-                a[2] = random.nextInt(3);
+                for (int i = 0; i < 10 && (i == 0 || model.equalTo(a[0]).size() == 1); i++) {
+                    a[0] = somePath(paths);
+                }
+                a[1] = one(model.equalTo(a[0]), a[0]);
+                a[2] = random.nextInt(Math.max(1, model.distance(a[0], a[1])));
                 a[3] = random.nextInt(2);
                 break;
             case "append":
                 a[0] = letter();
                 break;
             case "path":
-            case "arrowOf":
             case "apply":
             case "imageShare":
                 a[0] = random.nextInt(paths);
@@ -132,18 +147,65 @@ public final class ModelTest {
                 break;
             case "setFunction":
                 a[0] = random.nextInt(arrows);
-                a[1] = random.nextInt(random.nextBoolean() ? 6 : 256);
+                a[1] = 0;
+                for (int i = 0; i < model.sizeAt(model.arrowEnd(a[0], 0)); i++) {
+                    a[1] = 4 * a[1] + random.nextInt(model.sizeAt(model.arrowEnd(a[0], 1)));
+                }
+                break;
+            case "arrowOf":
+                a[0] = somePath(paths);
+                a[1] = random.nextInt(Math.max(1, model.path(a[0], 2)));
+                break;
+            case "between":
+                a[0] = random.nextInt(model.count(0));
+                a[1] = random.nextInt(model.count(0));
                 break;
             case "isProduct":
+                a[0] = random.nextInt(arrows);
+                a[1] = one(model.arrowsBetween(model.arrowEnd(a[0], 0), -1), 0);
+                break;
             case "isPullback":
+                a[0] = random.nextInt(arrows);
+                a[1] = one(model.arrowsBetween(model.arrowEnd(a[0], 1), -1), 0);
+                a[2] = one(model.arrowsBetween(model.arrowEnd(a[0], 0), -1), 0);
+                a[3] = one(model.arrowsBetween(model.arrowEnd(a[2], 1), model.arrowEnd(a[1], 1)), 0);
+                break;
             case "isEqualizer":
-                for (int i = 0; i < 4; i++) {
-                    a[i] = random.nextInt(arrows);
-                }
+                a[0] = random.nextInt(arrows);
+                a[1] = one(model.arrowsBetween(model.arrowEnd(a[0], 1), -1), 0);
+                a[2] = one(model.arrowsBetween(model.arrowEnd(a[1], 0), model.arrowEnd(a[1], 1)), 0);
                 break;
             default:
                 break;
         }
+    }
+
+    /** Longer paths, which have greater numbers, more often. */
+    private int somePath(int paths) {
+        return paths - 1 - random.nextInt(random.nextInt(paths) + 1);
+    }
+
+    private int one(List<Integer> of, int otherwise) {
+        return of.isEmpty() ? otherwise : of.get(random.nextInt(of.size()));
+    }
+
+    /** Writes a text of some items, mostly a complete one, and loads it. */
+    private void writeAndLoad(String call) {
+        compare(call + " clearInput", CLEAR, 0, 0, 0, 0);
+        int items = 1 + random.nextInt(random.nextInt(6) + 1);
+        for (int i = 0; i < 60 && items > 0; i++) {
+            String next = model.someContinuation();
+            int letter = random.nextInt(40) == 0 || next.isEmpty() ? letter() : next.charAt(random.nextInt(next.length()));
+            if (next.indexOf(';') >= 0 && random.nextInt(8) > 0) {
+                items--;
+                letter = ';';
+            }
+            if (items > 0) {
+                compare(call + " append " + letter, APPEND, letter, 0, 0, 0);
+            }
+        }
+        compare(call + " firstError", FIRST_ERROR, 0, 0, 0, 0);
+        compare(call + " load", LOAD, 0, 0, 0, 0);
     }
 
     private int letter() {
@@ -164,6 +226,8 @@ public final class ModelTest {
             throwing[op]++;
         } else {
             answering[op]++;
+            boolean above = want instanceof Number && ((Number) want).doubleValue() > 0;
+            positive[op] += above || want.equals(true) ? 1 : 0;
         }
     }
 
