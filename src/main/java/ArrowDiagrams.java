@@ -188,7 +188,7 @@ public final class ArrowDiagrams {
             return pathsFromTo(from, to);
         }
         pasting.refresh(paths, cells);
-        return classesFromTo(from, to);
+        return pasting.classesBetween(from, to);
     }
 
     public int distance(int first, int second) throws IndexOutOfBoundsException {
@@ -484,22 +484,12 @@ public final class ArrowDiagrams {
         return found;
     }
 
-    private int classesFromTo(int from, int to) {
-        int found = 0;
-        for (int path = 0; path < paths.total(); path++) {
-            if (paths.leads(path, from, to) && pasting.className(path) == path) {
-                found++;
-            }
-        }
-        return found;
-    }
-
     /** How many pairs of different objects have a path, and no more classes than that. */
     private int pairsWithAtMost(int classes) {
         int pairs = 0;
         for (int from = 0; from < graph.objectTotal(); from++) {
             for (int to = from + 1; to < graph.objectTotal(); to++) {
-                int found = classesFromTo(from, to);
+                int found = pasting.classesBetween(from, to);
                 if (found > 0 && found <= classes) {
                     pairs++;
                 }
@@ -640,7 +630,8 @@ public final class ArrowDiagrams {
         Grid(int rows, int columns) {
             this.rows = rows > 0 ? rows : 0;
             this.columns = columns > 0 ? columns : 0;
-            this.numbers = new int[this.rows * this.columns];
+            int places = this.rows * this.columns;
+            this.numbers = new int[places > 0 ? places : 0];
         }
 
         int get(int row, int column) {
@@ -648,7 +639,7 @@ public final class ArrowDiagrams {
                 return NONE;
             }
             int place = row * columns + column;
-            return place < numbers.length ? numbers[place] : NONE;
+            return place >= 0 && place < numbers.length ? numbers[place] : NONE;
         }
 
         void set(int row, int column, int number) {
@@ -656,8 +647,14 @@ public final class ArrowDiagrams {
                 return;
             }
             int place = row * columns + column;
-            if (place < numbers.length) {
+            if (place >= 0 && place < numbers.length) {
                 numbers[place] = number;
+            }
+        }
+
+        void fill(int number) {
+            for (int i = 0; i < numbers.length; i++) {
+                numbers[i] = number;
             }
         }
 
@@ -768,13 +765,16 @@ public final class ArrowDiagrams {
         private final Row length = new Row(MAX_PATHS);
         private final Grid arrow = new Grid(MAX_PATHS, MAX_LENGTH);
 
+        /** The path without its last arrow; NONE for an empty one. */
+        private final Row shorter = new Row(MAX_PATHS);
+
         /** The path with one more arrow; NONE if the arrow does not go on from its end. */
         private final Grid longer = new Grid(MAX_PATHS, MAX_ARROWS);
 
         void rebuild(Graph graph) {
             total = 0;
             for (int object = 0; object < graph.objectTotal(); object++) {
-                enter(object, object, 0);
+                enter(object, object, 0, NONE);
             }
             // the arrows themselves are ordered by their numbers, not by where they begin
             for (int last = 0; last < graph.arrowTotal(); last++) {
@@ -793,14 +793,20 @@ public final class ArrowDiagrams {
             return total;
         }
 
+        /** The last arrow; NONE for an empty path. */
+        int last(int path) {
+            return arrow.get(path, length.get(path) - 1);
+        }
+
         boolean leads(int path, int from, int to) {
             return start.get(path) == from && end.get(path) == to;
         }
 
-        private void enter(int from, int to, int arrows) {
+        private void enter(int from, int to, int arrows, int withoutLast) {
             start.set(total, from);
             end.set(total, to);
             length.set(total, arrows);
+            shorter.set(total, withoutLast);
             for (int next = 0; next < MAX_ARROWS; next++) {
                 longer.set(total, next, NONE);
             }
@@ -814,7 +820,7 @@ public final class ArrowDiagrams {
             }
             arrow.set(total, before, last);
             longer.set(path, last, total);
-            enter(start.get(path), to, before + 1);
+            enter(start.get(path), to, before + 1, path);
         }
     }
 
@@ -929,6 +935,7 @@ public final class ArrowDiagrams {
         private final Row classSizes = new Row(MAX_PATHS);
         private final Row distances = new Row(MAX_PATHS);
         private final Row queue = new Row(MAX_PATHS);
+        private final Grid perPair = new Grid(MAX_OBJECTS, MAX_OBJECTS);
 
         Pasting() {
             distances.fill(NONE);
@@ -945,15 +952,15 @@ public final class ArrowDiagrams {
             }
             fresh = true;
             sides = 2 * cells.total();
-            for (int path = 0; path < paths.total(); path++) {
-                for (int side = 0; side < sides; side++) {
-                    // the two paths of a cell stand side by side: 2n, and 2n + 1
-                    int part = cells.pathOf(side / 2, side % 2);
-                    int other = cells.pathOf(side / 2, 1 - side % 2);
-                    steps.set(path, side, replaced(paths, path, part, other));
+            for (int side = 0; side < sides; side++) {
+                // the two paths of a cell stand side by side: 2n, and 2n + 1
+                int part = cells.pathOf(side / 2, side % 2);
+                int other = cells.pathOf(side / 2, 1 - side % 2);
+                for (int path = 0; path < paths.total(); path++) {
+                    steps.set(path, side, stepFrom(paths, path, side, part, other));
                 }
             }
-            findClasses(paths.total());
+            findClasses(paths);
         }
 
         void refreshCore(Cells cells) {
@@ -980,6 +987,10 @@ public final class ArrowDiagrams {
 
         int classTotal() {
             return classes;
+        }
+
+        int classesBetween(int from, int to) {
+            return perPair.get(from, to);
         }
 
         int coreSize() {
@@ -1050,16 +1061,22 @@ public final class ArrowDiagrams {
             return distances.get(cells.pathOf(cell, 1)) != NONE;
         }
 
-        private void findClasses(int total) {
+        private void findClasses(Paths paths) {
             names.fill(NONE);
+            perPair.fill(0);
             classes = 0;
-            for (int path = 0; path < total; path++) {
+            for (int path = 0; path < paths.total(); path++) {
                 if (names.get(path) == NONE) {
                     spread(path, ALL_CELLS);
                     nameReached(path);
-                    classes++;
+                    countClass(paths.start.get(path), paths.end.get(path));
                 }
             }
+        }
+
+        private void countClass(int from, int to) {
+            perPair.set(from, to, perPair.get(from, to) + 1);
+            classes++;
         }
 
         private void nameReached(int name) {
@@ -1069,38 +1086,26 @@ public final class ArrowDiagrams {
             }
         }
 
-        /** The path with the part replaced; NONE if it has no such part, or the part is empty. */
-        private static int replaced(Paths paths, int path, int part, int other) {
-            int at = indexOf(paths, path, part);
-            if (at == NONE) {
-                return NONE;
+        /**
+         * The path with the part replaced by the other one; NONE if it has no such part. The part
+         * stands in the path without its last arrow, which has its steps already, or at the end.
+         */
+        private int stepFrom(Paths paths, int path, int side, int part, int other) {
+            int shorterStep = steps.get(paths.shorter.get(path), side);
+            if (shorterStep != NONE) {
+                return paths.longer.get(shorterStep, paths.last(path));
             }
-            int result = paths.start.get(path);
-            for (int i = 0; i < at; i++) {
-                result = paths.longer.get(result, paths.arrow.get(path, i));
+            int result = path;
+            for (int i = paths.length.get(part) - 1; i >= 0; i--) {
+                if (paths.last(result) != paths.arrow.get(part, i)) {
+                    return NONE;
+                }
+                result = paths.shorter.get(result);
             }
             for (int i = 0; i < paths.length.get(other); i++) {
                 result = paths.longer.get(result, paths.arrow.get(other, i));
             }
-            for (int i = at + paths.length.get(part); i < paths.length.get(path); i++) {
-                result = paths.longer.get(result, paths.arrow.get(path, i));
-            }
             return result;
-        }
-
-        /** Objects only rise along a path, so an arrow, and thus a part, occurs at most once. */
-        private static int indexOf(Paths paths, int path, int part) {
-            int size = paths.length.get(part);
-            for (int at = 0; size > 0 && at + size <= paths.length.get(path); at++) {
-                int same = 0;
-                while (same < size && paths.arrow.get(path, at + same) == paths.arrow.get(part, same)) {
-                    same++;
-                }
-                if (same == size) {
-                    return at;
-                }
-            }
-            return NONE;
         }
     }
 

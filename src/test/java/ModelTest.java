@@ -14,6 +14,7 @@ public final class ModelTest {
         40, 15, 10, 10, 12, 15, 12, 5
     };
 
+    private static final int ADD_ARROW = 1;
     private static final int APPEND = 5;
     private static final int CLEAR = 6;
     private static final int FIRST_ERROR = 7;
@@ -59,6 +60,9 @@ public final class ModelTest {
     private void run(String name) {
         int first = large ? 5 + random.nextInt(4) : 2 + random.nextInt(2) + random.nextInt(4);
         compare(name + " first", 0, first, 0, 0, 0);
+        for (int i = 1; large && i < first; i++) {
+            compare(name + " chain", ADD_ARROW, i - 1, i, 0, 0);
+        }
         for (int i = 0; i < 500; i++) {
             int op = operation();
             int[] a = {number(), number(), number(), number()};
@@ -68,7 +72,8 @@ public final class ModelTest {
             if (random.nextInt(large ? 80 : 25) == 0) {
                 writeAndLoad(call + " then");
             }
-            if (!large || i % 8 == 0) {
+            // a digest asks for everything, and would hide what a call alone finds out too late
+            if (random.nextInt(large ? 8 : 3) == 0) {
                 checks.due(call + " digest", real.digest(), model.digest());
             }
         }

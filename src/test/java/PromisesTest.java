@@ -27,6 +27,8 @@ public final class PromisesTest {
         test.find();
         test.path();
         test.numbersOfPaths();
+        test.longestPaths();
+        test.askedAtOnce();
         test.arrowOf();
         test.between();
         test.distance();
@@ -461,6 +463,61 @@ public final class PromisesTest {
         due("number after an arrow has come", number(x, "ea"), -1);
         x.dropArrow();
         due("number after it has gone", number(x, "cba"), 11);
+    }
+
+    /** Paths of seven arrows, and a cell of two of them. */
+    private void longestPaths() {
+        ArrowDiagrams x = diagram(8, "01;12;23;34;45;56;67;67");
+        int one = number(x, "abcdefg");
+        int other = number(x, "abcdefh");
+        due("longest: number", one, x.count(3) - 2);
+        due("longest: the other number", other, x.count(3) - 1);
+        due("longest: length", x.path(one, 2), 7);
+        due("longest: last arrow", x.arrowOf(one, 6), 6);
+        due("longest: last arrow of the other", x.arrowOf(other, 6), 7);
+        due("longest: not equal", x.distance(one, other), -1);
+        write(x, "abcdefg=abcdefh");
+        due("longest: load", x.load(), 1);
+        due("longest: equal", x.distance(one, other), 1);
+        due("longest: the parts are not equal", x.distance(number(x, "bcdefg"), number(x, "bcdefh")), -1);
+        due("longest: cell", x.cell(0, 1), other);
+        x.setFunction(7, 5);
+        due("longest: apply", x.apply(other, 1), 1);
+        due("longest: does not hold", x.cell(0, 4), 0);
+        x.addArrow(0, 1);
+        due("longest: another arrow", x.cell(0, 0), number(x, "abcdefg"));
+        due("longest: drop it", x.dropArrow(), 0);
+        due("longest: drop the last arrow of the cell", x.dropArrow(), 1);
+    }
+
+    /** Each question is asked right behind a change, with no other one between. */
+    private void askedAtOnce() {
+        for (int question = 0; question < 10; question++) {
+            ArrowDiagrams x = diagram(3, "01;01;12");
+            x.addCell(3, 4);
+            due("at once: before " + question, ask(x, question), new int[] {3, 2, 1, 1, 0, 0, 1, 1, 3, -1}[question]);
+            x.addCell(3, 4);
+            due("at once: a cell more " + question, ask(x, question), new int[] {3, 2, 1, 1, 1, 0, 1, 1, 3, -1}[question]);
+            x.dropCell(1);
+            x.dropCell(0);
+            x.addCell(6, 7);
+            due("at once: another cell " + question, ask(x, question), new int[] {4, 1, 2, -1, 0, -2, 1, 1, 2, 4}[question]);
+        }
+    }
+
+    private static int ask(ArrowDiagrams x, int question) {
+        switch (question) {
+            case 0: return x.path(4, 3);
+            case 1: return x.path(4, 4);
+            case 2: return x.between(0, 1, true);
+            case 3: return x.distance(3, 4);
+            case 4: return x.cell(0, 2);
+            case 5: return Checks.outcome(() -> x.proof(4, 3, 0, 1)) instanceof Integer ? x.proof(4, 3, 0, 1) : -2;
+            case 6: return x.cell(0, 3);
+            case 7: return x.count(7);
+            case 8: return (int) (3 * x.commuting());
+            default: return x.separate(3, 4);
+        }
     }
 
     private void arrowOf() {
