@@ -33,7 +33,7 @@ public final class ArrowDiagrams {
     public ArrowDiagrams() {
         graph.clear(MIN_OBJECTS);
         functions.clear();
-        paths.rebuild(graph);
+        graphChanged();
     }
 
     // ---- diagrams
