@@ -19,12 +19,14 @@ public final class ModelTest {
     private static final int CLEAR = 6;
     private static final int FIRST_ERROR = 7;
     private static final int LOAD = 8;
+    private static final int DIGEST = 26;
 
     private final Checks checks;
     private final Random random;
     private final boolean large;
     private final ArrowDiagrams real = new ArrowDiagrams();
     private final Model model = new Model();
+    private int calls = 0;
     private final int[] throwing = new int[NAMES.length];
     private final int[] answering = new int[NAMES.length];
     private final int[] positive = new int[NAMES.length];
@@ -40,7 +42,7 @@ public final class ModelTest {
         int[] answers = new int[NAMES.length];
         int[] exceptions = new int[NAMES.length];
         int[] positive = new int[NAMES.length];
-        for (int seed = 0; seed < 240; seed++) {
+        for (int seed = 0; seed < 480; seed++) {
             ModelTest test = new ModelTest(checks, seed, seed % 8 == 7);
             test.run("seed " + seed);
             for (int i = 0; i < NAMES.length; i++) {
@@ -63,18 +65,18 @@ public final class ModelTest {
         for (int i = 1; large && i < first; i++) {
             compare(name + " chain", ADD_ARROW, i - 1, i, 0, 0);
         }
-        for (int i = 0; i < 500; i++) {
+        while (calls < Cases.CALLS) {
             int op = operation();
             int[] a = {number(), number(), number(), number()};
             bend(op, a);
-            String call = name + " call " + i + " " + NAMES[op] + "(" + a[0] + ", " + a[1] + ", " + a[2] + ", " + a[3] + ")";
+            String call = name + " call " + calls + " " + NAMES[op] + "(" + a[0] + ", " + a[1] + ", " + a[2] + ", " + a[3] + ")";
             compare(call, op, a[0], a[1], a[2], a[3]);
             if (random.nextInt(large ? 80 : 25) == 0) {
                 writeAndLoad(call + " then");
             }
             // a digest asks for everything, and would hide what a call alone finds out too late
             if (random.nextInt(large ? 8 : 3) == 0) {
-                checks.due(call + " digest", real.digest(), model.digest());
+                compare(call + " digest", DIGEST, 0, 0, 0, 0);
             }
         }
     }
@@ -224,7 +226,12 @@ public final class ModelTest {
         return next.charAt(random.nextInt(3) == 0 ? next.length() - 1 : random.nextInt(next.length()));
     }
 
+    /** What an object answers after so many calls is free, so that it is not asked any more. */
     private void compare(String call, int op, int a, int b, int c, int d) {
+        if (calls >= Cases.CALLS) {
+            return;
+        }
+        calls++;
         Object want = Checks.outcome(() -> onModel(op, a, b, c, d));
         checks.due(call, Checks.outcome(() -> onReal(op, a, b, c, d)), want);
         if (want instanceof String) {

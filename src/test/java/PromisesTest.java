@@ -1,13 +1,5 @@
 /** Goes through the promises of the document: ordinary inputs, edges and wrong inputs, worked out by hand. */
-public final class PromisesTest {
-    private static final int LOW = Integer.MIN_VALUE;
-    private static final int HIGH = Integer.MAX_VALUE;
-    private static final Class<IndexOutOfBoundsException> INDEX = IndexOutOfBoundsException.class;
-    private static final Class<IllegalArgumentException> ARGUMENT = IllegalArgumentException.class;
-    private static final Class<IllegalStateException> STATE = IllegalStateException.class;
-
-    private final Checks checks = new Checks();
-
+public final class PromisesTest extends Cases {
     public static void main(String[] args) {
         PromisesTest test = new PromisesTest();
         test.newObject();
@@ -48,65 +40,6 @@ public final class PromisesTest {
         test.isEqualizer();
         test.digest();
         test.checks.finish();
-    }
-
-    // ---- helpers
-
-    private void due(String what, long got, long want) {
-        checks.due(what, got, want);
-    }
-
-    private void due(String what, boolean got, boolean want) {
-        checks.due(what, got, want);
-    }
-
-    /** The call throws the exception, and leaves the digest as it was. */
-    private void refused(String what, ArrowDiagrams x, Class<? extends RuntimeException> want, Checks.Call call) {
-        long before = x.digest();
-        checks.throwsA(what, want, call);
-        due(what + " changes nothing", x.digest(), before);
-    }
-
-    /** A diagram with arrows written as in a text: "01;12". */
-    private static ArrowDiagrams diagram(int objects, String arrows) {
-        ArrowDiagrams x = new ArrowDiagrams();
-        x.begin(objects);
-        for (int i = 0; i < arrows.length(); i += 3) {
-            x.addArrow(arrows.charAt(i) - '0', arrows.charAt(i + 1) - '0');
-        }
-        return x;
-    }
-
-    private static void write(ArrowDiagrams x, String text) {
-        for (char c : text.toCharArray()) {
-            x.append(c);
-        }
-    }
-
-    private static int number(ArrowDiagrams x, String letters) {
-        x.clearInput();
-        write(x, letters);
-        int found = x.find();
-        x.clearInput();
-        return found;
-    }
-
-    private static int addCell(ArrowDiagrams x, String first, String second) {
-        return x.addCell(number(x, first), number(x, second));
-    }
-
-    private static int errorOf(ArrowDiagrams x, String text) {
-        x.clearInput();
-        write(x, text);
-        return x.firstError();
-    }
-
-    private static long fold(long... values) {
-        long hash = 1987;
-        for (long value : values) {
-            hash = 31 * hash + value;
-        }
-        return hash;
     }
 
     // ---- promises 1 to 10: diagrams
@@ -176,7 +109,7 @@ public final class PromisesTest {
         refused("addArrow 15th, outside", x, INDEX, () -> x.addArrow(0, 2));
         refused("addArrow 15th, back", x, ARGUMENT, () -> x.addArrow(1, 0));
 
-        ArrowDiagrams y = diagram(6, "01;12;12;12;23;23;23;34;34;34;34;45;45");
+        ArrowDiagrams y = diagram(6, PATHS_300);
         due("addArrow: 300 paths", y.count(3), 300);
         refused("addArrow: path 301", y, STATE, () -> y.addArrow(0, 5));
         refused("addArrow: path 301, outside", y, INDEX, () -> y.addArrow(0, 6));
@@ -390,7 +323,7 @@ public final class PromisesTest {
         y.append(';');
         refused("load: path 301, not complete", y, ARGUMENT, y::load);
         y.clearInput();
-        write(y, "01;12;12;12;23;23;23;34;34;34;34;45;45");
+        write(y, PATHS_300);
         due("load: 300 paths", y.load(), 13);
         due("load: 300 paths", y.count(3), 300);
         write(y, "05");
